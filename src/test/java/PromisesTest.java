@@ -50,6 +50,7 @@ public final class PromisesTest {
         yearTouchesNothing();
         images();
         told();
+        extremes();
         System.out.println(wrong == 0 ? "all promises hold" : wrong + " answers are not as due");
         if (wrong != 0) {
             System.exit(1);
@@ -136,8 +137,8 @@ public final class PromisesTest {
 
     private static void fault() {
         String[] good = {"", "123456", ".", "A!", "F#", "6A#.B!1"};
-        String[] bad = {"!", "#", "0", "7", "G!", "a!", "@", "A", "6A", "A!B", "AA", "A.", "A6", "A!!", "6#", "..G", "A~",
-            "1,"};
+        String[] bad = {"!", "#", "0", "7", "G!", "a!", "@", "A", "6A", "A!B", "AA", "A.", "A6", "A!!", "6#", "..G",
+            "A~", "1,"};
         int[] place = {0, 0, 0, 0, 0, 0, 0, 1, 2, 3, 1, 1, 1, 2, 1, 2, 1, 1};
         BeetleDrive x = new BeetleDrive();
         for (String signs : good) {
@@ -406,7 +407,8 @@ public final class PromisesTest {
         due("15 front, then right: the order counts", x.roll(12, 101), 4);
         due("15 right, then front", x.roll(12, 110), 5);
         due("15 six", x.roll(12, 1333333), 6);
-        int[] notSo = {11, 16, 22, 25, 34, 61, 10, 7, 1, 0, -12, 72, 17, 112, 120, Integer.MIN_VALUE, Integer.MAX_VALUE};
+        int[] notSo = {11, 16, 22, 25, 34, 61, 10, 7, 1, 0, -12, 72, 17, 112, 120, Integer.MIN_VALUE,
+            Integer.MAX_VALUE};
         for (int lies : notSo) {
             due("15 can not lie " + lies, x.roll(lies, 1), OUTSIDE);
         }
@@ -599,6 +601,40 @@ public final class PromisesTest {
         int[] none = {-1, 4, 9, 16, 19, 26, 29, 36, 40, 45, 100, 110, 130, Integer.MIN_VALUE, Integer.MAX_VALUE};
         for (int what : none) {
             due("24 outside " + what, x.told(what), OUTSIDE);
+        }
+    }
+
+    /** The furthest numbers are refused like any other. */
+    private static void extremes() {
+        BeetleDrive x = new BeetleDrive();
+        long gone = -1000000000000000002L;
+        for (int far : new int[] {Integer.MIN_VALUE, Integer.MIN_VALUE + 1, Integer.MAX_VALUE}) {
+            due("far player", x.player(far, far, far), UNKNOWN);
+            due("far points", x.player(0, 0, far), OUTSIDE);
+            due("far die", x.die(far), UNKNOWN);
+            due("far say", x.say(far), OUTSIDE);
+            due("far judge", x.judge(far), OUTSIDE);
+            due("far behind", x.behind(far, far), UNKNOWN);
+            due("far behind what", x.behind(0, far), OUTSIDE);
+            due("far table", x.table(far), OUTSIDE);
+            due("far first", x.first(far), OUTSIDE);
+            due("far orders", x.orders(far, 0), OUTSIDE);
+            due("far orders what", x.orders(0, far), OUTSIDE);
+            due("far whole", x.whole(far, 0, 0), gone);
+            due("far whole n", x.whole(0, far, 0), gone);
+            due("far whole part", x.whole(0, 0, far), gone);
+            due("far sums k", x.sums(far, 1), OUTSIDE);
+            due("far sums s", x.sums(1, far), OUTSIDE);
+            due("far shown v", x.shown(1, far), OUTSIDE);
+            due("far ask", x.ask(far), OUTSIDE);
+            due("far turn n", x.turn(far, 1, 0), OUTSIDE);
+            due("far turn f", x.turn(1, far, 0), OUTSIDE);
+            due("far turn what", x.turn(1, 1, far), OUTSIDE);
+            due("far year seed", x.year(far, 1, 0), OUTSIDE);
+            due("far year m", x.year(0, far, 0), OUTSIDE);
+            due("far year what", x.year(0, 1, far), OUTSIDE);
+            due("far image", x.image(far), OUTSIDE);
+            due("far restore", x.restore(far), OUTSIDE);
         }
     }
 }
