@@ -769,6 +769,7 @@ public final class BeetleDrive {
     private static final class Cube {
         private static final int MOST_ROW = 1333333;
         private static final int MOST_WAYS = 6;
+        private static final int FIRST_UNIT = 100000;
 
         private Cube() {
         }
@@ -793,14 +794,15 @@ public final class BeetleDrive {
             return rest == 1;
         }
 
+        /* The figures from the first on; the 1 ahead, and what would stand before it, are no ways. */
         static int topAfter(int lie, int row) {
-            int unit = 1;
-            for (int i = 0; i < MOST_WAYS && row / unit >= 10; i++) {
-                unit *= 10;
-            }
             int now = lie;
-            for (int at = unit / 10; at > 0; at /= 10) {
-                now = rolled(now, row / at % 10);
+            int unit = FIRST_UNIT;
+            for (int i = 0; i < MOST_WAYS && unit > 0; i++) {
+                if (row / unit >= 10) {
+                    now = rolled(now, row / unit % 10);
+                }
+                unit /= 10;
             }
             return now / 10;
         }

@@ -24,12 +24,26 @@ public final class ModelTest {
         }
     }
 
+    private static final int CALLS = 512;
+    private static BeetleDrive lent;
+    private static int used = CALLS;
+
+    /** An object for n calls more: a new one, if the last would be used for more than is promised. */
+    private static BeetleDrive forCalls(int n) {
+        if (used + n > CALLS) {
+            lent = new BeetleDrive();
+            used = 0;
+        }
+        used += n;
+        return lent;
+    }
+
     public static void main(String[] args) {
         everyBeetle();
         everySum();
         everyRoll();
         everyTurn();
-        for (int run = 0; run < 3000; run++) {
+        for (int run = 0; run < 9000; run++) {
             randomRun(run);
         }
         System.out.println(wrong == 0 ? compared + " answers are as the model's" : wrong + " answers are not as due");
@@ -144,10 +158,10 @@ public final class ModelTest {
     }
 
     private static void everyBeetle() {
-        BeetleDrive x = new BeetleDrive();
         int found = 0;
         for (int drawn = -5; drawn <= 112000; drawn++) {
             boolean can = canBe(drawn);
+            BeetleDrive x = forCalls(can ? 60 : 2);
             due("orders " + drawn, x.orders(drawn, 0), can ? orders(figures(drawn)) : OUTSIDE);
             due("player " + drawn, x.player(0, drawn, 0), can ? 0 : OUTSIDE);
             if (can) {
@@ -175,7 +189,6 @@ public final class ModelTest {
     }
 
     private static void everySum() {
-        BeetleDrive x = new BeetleDrive();
         for (int k = -1; k <= 14; k++) {
             for (int s = -2; s <= 102; s++) {
                 BigInteger n = BigInteger.ZERO;
@@ -184,7 +197,7 @@ public final class ModelTest {
                     n = j % 2 == 0 ? n.add(term) : n.subtract(term);
                 }
                 boolean fine = k >= 1 && k <= 12 && s >= 0 && s <= 99;
-                due("sums " + k + " " + s, x.sums(k, s), fine ? n.longValueExact() : OUTSIDE);
+                due("sums " + k + " " + s, forCalls(1).sums(k, s), fine ? n.longValueExact() : OUTSIDE);
             }
         }
     }
@@ -232,15 +245,14 @@ public final class ModelTest {
     private static void everyRoll() {
         reach(new int[] {1, 6, 2, 5, 3, 4});
         due("ways to lie", LIES.size(), 24);
-        BeetleDrive x = new BeetleDrive();
         for (int lie = -5; lie <= 130; lie++) {
             for (int row = -20; row <= 1400; row++) {
                 boolean fine = LIES.containsKey(lie) && isRow(row);
-                due("roll " + lie + " " + row, x.roll(lie, row), fine ? top(lie, row) : OUTSIDE);
+                due("roll " + lie + " " + row, forCalls(1).roll(lie, row), fine ? top(lie, row) : OUTSIDE);
             }
         }
         for (int row = 9990; row <= 1340000; row += 1) {
-            due("roll 35 " + row, x.roll(35, row), isRow(row) ? top(35, row) : OUTSIDE);
+            due("roll 35 " + row, forCalls(1).roll(35, row), isRow(row) ? top(35, row) : OUTSIDE);
         }
     }
 
@@ -268,12 +280,11 @@ public final class ModelTest {
     }
 
     private static void everyTurn() {
-        BeetleDrive x = new BeetleDrive();
         for (int n = -1; n <= 101; n++) {
             for (int f = 0; f <= 7; f++) {
                 boolean fine = n >= 0 && n <= 99 && f >= 1 && f <= 6;
-                due("turn " + n + " " + f, x.turn(n, f, 1), fine ? winningTurn(n, f) : OUTSIDE);
-                due("wins " + n + " " + f, x.turn(n, f, 0), !fine ? OUTSIDE : wins(n, f) ? 1 : 0);
+                due("turn " + n + " " + f, forCalls(1).turn(n, f, 1), fine ? winningTurn(n, f) : OUTSIDE);
+                due("wins " + n + " " + f, forCalls(1).turn(n, f, 0), !fine ? OUTSIDE : wins(n, f) ? 1 : 0);
             }
         }
     }
@@ -583,8 +594,10 @@ public final class ModelTest {
         Random r = new Random(1000 + run);
         BeetleDrive x = new BeetleDrive();
         Model m = new Model();
-        for (int call = 0; call < 500; call++) {
-            String name = "run " + run + " call " + call + ": ";
+        // Each answer that is compared is one call; a step makes nine at most, and the end 42.
+        long begun = compared;
+        while (compared - begun <= CALLS - 42 - 9) {
+            String name = "run " + run + " call " + (compared - begun) + ": ";
             int kind = r.nextInt(40);
             if (kind < 22) {
                 words(name, r, x, m);

@@ -496,7 +496,7 @@ public final class PromisesTest {
         due("20 what -1", x.turn(1, 1, -1), OUTSIDE);
     }
 
-    /** Seed 0: x is 74, then 5624, 28664: see what each act must be. */
+    /** Seed 0: x is 74, then 5624, 28652: see what each act must be. */
     private static void year() {
         BeetleDrive x = new BeetleDrive();
         // 74: left over by 8 is 2, y 9, a throw of 4: nothing, the die goes on.
