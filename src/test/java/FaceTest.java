@@ -112,5 +112,27 @@ public final class FaceTest {
         }
         check("no name that ends in Exact", !code.contains("Exact("));
         check("no text joined", !code.contains("\""));
+        rowsAreMadeOnce(code);
+        methodsAreShort(code);
+    }
+
+    /** Rule 12 and the one room of all calls: whatever is made is a field, so no call makes anything. */
+    private static void rowsAreMadeOnce(String code) {
+        for (String line : code.split("\n")) {
+            boolean isField = line.matches(" +private final [\\w\\[\\]]+ \\w+ = new [^;]+;");
+            check("made in a call: " + line.trim(), !line.matches(".*\\bnew\\b.*") || isField);
+        }
+    }
+
+    /** Rule 11: a method ends where its own indent comes back with a brace. */
+    private static void methodsAreShort(String code) {
+        Matcher m = Pattern.compile("(?ms)^( {4}| {8})(?! )[^;={}\\n]*\\([^;={}\\n]*\\) \\{\\n(.*?)^\\1\\}").matcher(code);
+        int found = 0;
+        while (m.find()) {
+            found++;
+            long lines = m.group(2).lines().count();
+            check(lines + " lines in " + m.group().lines().findFirst().orElse("").trim(), lines <= 60);
+        }
+        check("methods were found in the source: " + found, found >= METHODS.length);
     }
 }

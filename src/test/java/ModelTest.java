@@ -596,6 +596,9 @@ public final class ModelTest {
         Model m = new Model();
         // Each answer that is compared is one call; a step makes nine at most, and the end 42.
         long begun = compared;
+        if (run % 30 == 0) {
+            lateGames("run " + run + ": ", 97 + r.nextInt(3), x, m);
+        }
         while (compared - begun <= CALLS - 42 - 9) {
             String name = "run " + run + " call " + (compared - begun) + ": ";
             int kind = r.nextInt(40);
@@ -609,6 +612,25 @@ public final class ModelTest {
         }
         for (int what = -1; what < 41; what++) {
             due("run " + run + " at its end told " + what, x.told(what), m.told(what));
+        }
+    }
+
+    /** No run comes so far by chance: player 0 cries in each game, at four calls a game. */
+    private static void lateGames(String name, int games, BeetleDrive x, Model m) {
+        for (int i = 0; i < games; i++) {
+            due(name + "player", x.player(0, 111622, i), m.now.points[0]);
+            m.now.beetle[0] = figures(111622);
+            m.now.points[0] = i;
+            m.pad = "A!";
+            due(name + "say", x.say('A'), 1);
+            due(name + "say", x.say('!'), 2);
+            due(name + "done", x.done(), m.done());
+        }
+        // What follows is short, so some are whole from the start on: a cry is what matters here.
+        for (int p = 0; p < 6; p += 2) {
+            due(name + "player", x.player(p, 111622, p), m.now.points[p]);
+            m.now.beetle[p] = figures(111622);
+            m.now.points[p] = p;
         }
     }
 
